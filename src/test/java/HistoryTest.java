@@ -1,0 +1,205 @@
+/** Promises 17 (undo), 18 (save) and 19 (restore), and which calls are recorded. */
+public final class HistoryTest {
+  private static final Check check = new Check();
+
+  public static void main(String[] args) {
+    undoing();
+    fiveStates();
+    recordedCalls();
+    callsThatAreNotRecorded();
+    saving();
+    savesAndUndo();
+    savesAreCopies();
+    check.end();
+  }
+
+  private static NameMaps withAll() {
+    NameMaps x = new NameMaps();
+    x.addServer(0, 0, 128);
+    x.addServer(1, 0, 64);
+    x.addSite(0, 128, 20);
+    x.addSite(0, 64, 30);
+    x.setSlot(0, 0, 1, 0, 1);
+    x.setSlot(0, 1, 2, 0, 2);
+    x.setSlot(1, 2, 3, 1, 9);
+    x.register(0);
+    x.register(1);
+    x.addRouter();
+    x.addRouter();
+    x.send(0, 0, 0);
+    x.send(0, 100, 1);
+    x.send(1, 100, 2);
+    return x;
+  }
+
+  private static void undoing() {
+    NameMaps x = new NameMaps();
+    check.due("no state", x.undo(), -3);
+    x.pass(1);
+    x.pass(2);
+    check.due("undo()", x.undo(), 1);
+    check.due("hour", x.total(0), 1);
+    check.due("undo() again", x.undo(), 0);
+    check.due("hour then", x.total(0), 0);
+    check.due("no state is left", x.undo(), -3);
+    x.pass(5);
+    check.due("states", x.total(11), 1);
+    x.append('t');
+    check.due("undo() with a text", x.undo(), 0);
+    check.due("the text stays", x.total(12), 1);
+  }
+
+  private static void fiveStates() {
+    NameMaps x = new NameMaps();
+    for (int n = 1; n <= 13; n++) {
+      x.pass(n);
+      check.due("states", x.total(11), Math.min(n, 5));
+    }
+    int hour = x.total(0);
+    for (int left = 4; left >= 0; left--) {
+      check.due("undo()", x.undo(), left);
+      hour -= 9 + left;
+      check.due("hour", x.total(0), hour);
+    }
+    check.due("the older ones are dropped", x.undo(), -3);
+    check.due("hour at last", x.total(0), 36);
+  }
+
+  /** Each recorded call is undone on an object that has something of everything. */
+  private static void recordedCalls() {
+    for (int call = 0; call <= 11; call++) {
+      NameMaps x = withAll();
+      x.undo();
+      String before = Looks.ofState(x);
+      check.due("recorded call " + call, recordedCall(x, call) >= 0 ? 0 : 1, 0);
+      check.due("states after it", x.total(11), 5);
+      check.due("undo of it", x.undo(), 4);
+      check.dueText("state ahead of call " + call, Looks.ofState(x), before);
+    }
+  }
+
+  private static int recordedCall(NameMaps x, int call) {
+    switch (call) {
+      case 0:
+        return x.addServer(0, 128, 128);
+      case 1:
+        return x.addSite(128, 128, 5);
+      case 2:
+        return x.addRouter();
+      case 3:
+        return x.setSlot(0, 0, 30, 0, 1);
+      case 4:
+        return x.emptySlot(1, 2);
+      case 5:
+        return x.register(0);
+      case 6:
+        return x.unregister(0);
+      case 7:
+        return x.setMapLife(3);
+      case 8:
+        return x.send(0, 100, 0);
+      case 9:
+        return x.pass(99);
+      case 10:
+        return x.forget(0);
+      default:
+        return x.run();
+    }
+  }
+
+  private static void callsThatAreNotRecorded() {
+    NameMaps x = withAll();
+    for (int n = 0; n < 3; n++) {
+      x.undo();
+    }
+    x.append('r');
+    x.clearText();
+    x.save(0);
+    x.faultPosition();
+    x.wouldReach(0, 0, 0, 5);
+    x.wouldAsk(0, 0, 0);
+    x.share(0, 0);
+    x.addServer(9, 0, 1);
+    x.addSite(0, 3, 1);
+    x.setSlot(9, 0, 0, 0, 1);
+    x.emptySlot(0, 2);
+    x.register(9);
+    x.unregister(9);
+    x.setMapLife(0);
+    x.send(9, 0, 0);
+    x.pass(0);
+    x.forget(9);
+    x.restore(1);
+    check.due("states", x.total(11), 2);
+    check.due("the same value", x.setMapLife(10), 10);
+    check.due("it is recorded also then", x.total(11), 3);
+  }
+
+  private static void saving() {
+    NameMaps x = new NameMaps();
+    check.due("save(-1)", x.save(-1), -1);
+    check.due("save(2)", x.save(2), -1);
+    check.due("save(most)", x.save(Integer.MAX_VALUE), -1);
+    check.due("restore(-1)", x.restore(-1), -1);
+    check.due("restore(2)", x.restore(2), -1);
+    check.due("restore(least)", x.restore(Integer.MIN_VALUE), -1);
+    check.due("restore of an empty slot", x.restore(0), -3);
+    check.due("save(0)", x.save(0), 0);
+    check.due("the other slot is empty", x.restore(1), -3);
+    x.pass(7);
+    check.due("save(1)", x.save(1), 7);
+    x.pass(5);
+    check.due("restore(0)", x.restore(0), 0);
+    check.due("hour", x.total(0), 0);
+    check.due("states", x.total(11), 3);
+    check.due("restore(1)", x.restore(1), 7);
+    check.due("restore(1) again", x.restore(1), 7);
+    check.due("restore is recorded", x.total(11), 5);
+    x.pass(1);
+    check.due("in place of what it holds", x.save(0), 8);
+    check.due("restore(0) then", x.restore(0), 8);
+  }
+
+  private static void savesAndUndo() {
+    NameMaps x = withAll();
+    String before = Looks.ofState(x);
+    x.save(0);
+    check.due("undo()", x.undo(), 4);
+    check.due("restore(0)", x.restore(0), 0);
+    check.dueText("restored", Looks.ofState(x), before);
+    check.due("states", x.total(11), 5);
+    x.forget(0);
+    x.forget(1);
+    String forgotten = Looks.ofState(x);
+    x.append('t');
+    x.restore(0);
+    check.due("the text stays", x.total(12), 1);
+    check.due("undo of restore()", x.undo(), 4);
+    check.dueText("the state ahead of it", Looks.ofState(x), forgotten);
+    while (x.total(11) > 0) {
+      x.undo();
+    }
+    check.due("a slot outlasts undo()", x.restore(0), 0);
+    check.dueText("restored again", Looks.ofState(x), before);
+  }
+
+  private static void savesAreCopies() {
+    NameMaps x = withAll();
+    x.save(0);
+    x.save(1);
+    String before = Looks.ofState(x);
+    x.restore(0);
+    x.send(0, 0, 0);
+    x.setSlot(0, 0, 31, 9, 9);
+    x.addSite(200, 8, 5);
+    x.addServer(0, 128, 64);
+    x.addRouter();
+    x.pass(50);
+    x.send(1, 100, 0);
+    x.restore(0);
+    check.dueText("slot 0 is as it was", Looks.ofState(x), before);
+    x.send(1, 0, 0);
+    x.restore(1);
+    check.dueText("slot 1 is as it was", Looks.ofState(x), before);
+  }
+}
