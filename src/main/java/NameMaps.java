@@ -2,8 +2,8 @@
  * Names that are parted from places. The promises are those of ../shared/DOC.md; this file keeps to
  * the part of Java that ../shared/LANGUAGE.md leaves.
  *
- * <p>Every row that a call may need is made in the constructor and used again, so that no call makes
- * an object.
+ * <p>Every row that a call may need is made in the constructor and used again, so that no call
+ * makes an object.
  */
 public final class NameMaps {
   public static final int BAD_INDEX = -1;
@@ -134,7 +134,12 @@ public final class NameMaps {
       return NOT_POSSIBLE;
     }
     history.draft(present);
-    return recorded(carryOutActs());
+    text.rewind();
+    int done = 0;
+    while (done < MOST_BYTES && text.readAct() && carryOutAct() >= 0) {
+      done++;
+    }
+    return recorded(done);
   }
 
   // ---- history and slots
@@ -271,15 +276,7 @@ public final class NameMaps {
     return result;
   }
 
-  private int carryOutActs() {
-    text.rewind();
-    int done = 0;
-    while (done < MOST_BYTES && text.readAct() && carryOutAct() >= 0) {
-      done++;
-    }
-    return done;
-  }
-
+  /** Carries out the act that was read last. */
   private int carryOutAct() {
     switch (text.kind) {
       case 's':
@@ -331,7 +328,8 @@ public final class NameMaps {
     }
 
     void copyFrom(Block other) {
-      become(other.first, other.size);
+      first = other.first;
+      size = other.size;
     }
 
     boolean isAt(int otherFirst, int otherSize) {
@@ -362,7 +360,9 @@ public final class NameMaps {
     private final int[] cells = new int[SLOTS * CELLS];
 
     void copyFrom(Slots other) {
-      System.arraycopy(other.cells, 0, cells, 0, SLOTS * CELLS);
+      for (int c = 0; c < SLOTS * CELLS; c++) {
+        cells[c] = other.cells[c];
+      }
     }
 
     void fill(int slot, int place, int priority, int weight) {
@@ -382,16 +382,15 @@ public final class NameMaps {
     }
 
     boolean isEmpty(int slot) {
-      return !isSlot(slot) || cells[slot * CELLS + WEIGHT] == 0;
+      return slot < 0 || slot >= SLOTS || cells[slot * CELLS + WEIGHT] == 0;
     }
 
     boolean areEmpty() {
+      int sum = 0;
       for (int s = 0; s < SLOTS; s++) {
-        if (!isEmpty(s)) {
-          return false;
-        }
+        sum += cells[s * CELLS + WEIGHT];
       }
-      return true;
+      return sum == 0;
     }
 
     boolean have(int place) {
@@ -868,16 +867,8 @@ public final class NameMaps {
         router.drop(taken);
         return goByProxy(router, name);
       }
-      return goByFirstMap(router, name, flow);
-    }
-
-    private int goByFirstMap(Router router, int name, int flow) {
-      CacheMap map = router.maps[0];
-      int place = map.slots.placeFor(flow);
-      if (isReached(map.site, place)) {
-        if (map.version != sites[map.site].version) {
-          map.isMarked = true;
-        }
+      int place = placeByMap(router.maps[0], flow);
+      if (place != NOWHERE) {
         return place;
       }
       router.oldMaps++;
@@ -888,8 +879,20 @@ public final class NameMaps {
       return router.maps[0].slots.placeFor(flow);
     }
 
-    private boolean isReached(int site, int place) {
-      return isSite(site) && sites[site].isUp(hour) && sites[site].slots.have(place);
+    /** The place at which a letter arrives by a map; NOWHERE if the map is old. */
+    private int placeByMap(CacheMap map, int flow) {
+      int place = map.slots.placeFor(flow);
+      if (!isSite(map.site)) {
+        return NOWHERE;
+      }
+      Site site = sites[map.site];
+      if (!site.isUp(hour) || !site.slots.have(place)) {
+        return NOWHERE;
+      }
+      if (map.version != site.version) {
+        map.isMarked = true;
+      }
+      return place;
     }
 
     /** Tells whether there was an answer; if so, its map is the first one of the cache then. */
@@ -945,7 +948,7 @@ public final class NameMaps {
       for (int s = 0; s < siteCount; s++) {
         Block block = sites[s].block;
         if (block.has(name) && block.size < bestSize
-            && sites[s].isUp(hour) && homeOfSite(s) == home) {
+            && sites[s].isUp(hour) && homeOf(block.first, block.size) == home) {
           best = s;
           bestSize = block.size;
         }
@@ -1264,7 +1267,8 @@ public final class NameMaps {
 
     /** The byte at which the reading stands; NOWHERE, which is no byte, at the end. */
     private int byteHere() {
-      return position >= 0 && position < length && position < MOST_BYTES ? bytes[position] : NOWHERE;
+      boolean isInside = position < length && position < MOST_BYTES;
+      return isInside ? bytes[position] : NOWHERE;
     }
 
     private static boolean isDigit(int b) {

@@ -18,10 +18,13 @@ import com.sun.source.util.TreePathScanner;
 import com.sun.source.util.Trees;
 import java.io.IOException;
 import java.nio.file.Path;
+import java.util.HashMap;
 import java.util.HashSet;
 import java.util.List;
+import java.util.Map;
 import java.util.Set;
 import java.util.TreeSet;
+import javax.lang.model.element.Element;
 import javax.lang.model.element.Modifier;
 import javax.tools.JavaCompiler;
 import javax.tools.StandardJavaFileManager;
@@ -44,24 +47,29 @@ public final class LanguageTest extends TreePathScanner<Void, Void> {
       Tree.Kind.LAMBDA_EXPRESSION, Tree.Kind.MEMBER_REFERENCE, Tree.Kind.IMPORT, Tree.Kind.PACKAGE,
       Tree.Kind.ANNOTATION);
   private static final Set<String> LIBRARY = Set.of(
-      "Math.min", "Math.floorMod", "Integer.bitCount", "System.arraycopy");
+      "Math.min", "Math.floorMod", "Integer.bitCount");
   private static final Set<String> LIBRARY_CLASSES = Set.of(
       "Math", "Integer", "System", "Long", "String", "Arrays", "Character", "Thread", "Object");
   private static final int MOST_LINES = 60;
   private static final int MOST_PARAMETERS = 7;
   private static final int MOST_CLASSES = 12;
   private static final int MOST_FIELDS = 20;
+  private static final int MOST_DEPTH = 8;
 
   private static final Check check = new Check();
   private final Set<String> faceFound = new TreeSet<>();
   private final Set<String> hiddenMethods = new HashSet<>();
+  /** Which methods a method calls, the constructors that it calls among them. */
+  private final Map<Element, Set<Element>> calls = new HashMap<>();
   private final CompilationUnitTree unit;
+  private final Trees trees;
   private final SourcePositions positions;
   private int classes;
 
-  private LanguageTest(CompilationUnitTree unit, SourcePositions positions) {
+  private LanguageTest(CompilationUnitTree unit, Trees trees) {
     this.unit = unit;
-    this.positions = positions;
+    this.trees = trees;
+    this.positions = trees.getSourcePositions();
   }
 
   public static void main(String[] args) throws IOException {
@@ -70,11 +78,34 @@ public final class LanguageTest extends TreePathScanner<Void, Void> {
       JavacTask task = (JavacTask) compiler.getTask(
           null, files, null, null, null, files.getJavaFileObjects(SOURCE));
       CompilationUnitTree unit = task.parse().iterator().next();
-      LanguageTest test = new LanguageTest(unit, Trees.instance(task).getSourcePositions());
+      task.analyze();
+      LanguageTest test = new LanguageTest(unit, Trees.instance(task));
       test.scan(unit, null);
       test.lookAtFace();
+      for (Element method : test.calls.keySet()) {
+        check.dueTrue("not too deep: " + method, test.depthOf(method, 0) <= MOST_DEPTH);
+      }
     }
     check.end();
+  }
+
+  /** How many calls stand open at most, from a method on; more than is allowed if it is a circle. */
+  private int depthOf(Element method, int above) {
+    int below = 0;
+    for (Element called : calls.getOrDefault(method, Set.of())) {
+      below = Math.max(below, above > MOST_DEPTH ? MOST_DEPTH : depthOf(called, above + 1));
+    }
+    return 1 + below;
+  }
+
+  private void noteCall(Tree tree) {
+    Element called = trees.getElement(getCurrentPath());
+    for (TreePath path = getCurrentPath(); path != null; path = path.getParentPath()) {
+      if (path.getLeaf() instanceof MethodTree) {
+        calls.computeIfAbsent(trees.getElement(path), m -> new HashSet<>()).add(called);
+      }
+    }
+    check.dueTrue("a call of something" + at(tree), called != null);
   }
 
   private void lookAtFace() {
@@ -164,6 +195,7 @@ public final class LanguageTest extends TreePathScanner<Void, Void> {
   @Override
   public Void visitNewClass(NewClassTree tree, Void none) {
     check.dueTrue("no class without a name" + at(tree), tree.getClassBody() == null);
+    noteCall(tree);
     lookAtNew(tree);
     return super.visitNewClass(tree, none);
   }
@@ -184,6 +216,7 @@ public final class LanguageTest extends TreePathScanner<Void, Void> {
 
   @Override
   public Void visitMethodInvocation(MethodInvocationTree tree, Void none) {
+    noteCall(tree);
     if (tree.getMethodSelect() instanceof MemberSelectTree select
         && LIBRARY_CLASSES.contains(select.getExpression().toString())) {
       check.dueTrue("of the library: " + select + at(tree), LIBRARY.contains(select.toString()));
