@@ -10,6 +10,8 @@ public final class HistoryTest {
     saving();
     savesAndUndo();
     savesAreCopies();
+    worldsInTurn();
+    rowsAreMadeAnew();
     check.end();
   }
 
@@ -69,7 +71,7 @@ public final class HistoryTest {
   private static void recordedCalls() {
     for (int call = 0; call <= 11; call++) {
       NameMaps x = withAll();
-      x.undo();
+      x.setMapLife(20 + call);
       String before = Looks.ofState(x);
       check.due("recorded call " + call, recordedCall(x, call) >= 0 ? 0 : 1, 0);
       check.due("states after it", x.total(11), 5);
@@ -201,5 +203,90 @@ public final class HistoryTest {
     x.send(1, 0, 0);
     x.restore(1);
     check.dueText("slot 1 is as it was", Looks.ofState(x), before);
+  }
+
+  /** Two worlds that differ in everything take turns, so that nothing of one stays in the other. */
+  private static void worldsInTurn() {
+    NameMaps x = new NameMaps();
+    x.save(0);
+    x.addServer(0, 0, 128);
+    x.addServer(1, 64, 64);
+    x.addServer(2, 64, 8);
+    x.addSite(64, 64, 20);
+    x.addSite(64, 32, 30);
+    buildRouters(x, 80);
+    x.save(1);
+    String first = Looks.ofState(x);
+    x.restore(0);
+    x.pass(4);
+    x.addServer(0, 128, 128);
+    x.addServer(0, 64, 32);
+    x.addServer(2, 64, 1);
+    x.addSite(64, 32, 7);
+    x.addSite(0, 256, 8);
+    x.addSite(64, 1, 9);
+    buildRouters(x, 96);
+    x.setMapLife(30);
+    x.save(0);
+    String second = Looks.ofState(x);
+    for (int n = 0; n < 3; n++) {
+      x.restore(1);
+      check.dueText("the first world", Looks.ofState(x), first);
+      check.due("a letter in it", x.send(0, 80, 0), 9);
+      x.restore(0);
+      check.dueText("the second world", Looks.ofState(x), second);
+      x.undo();
+      x.undo();
+      check.dueText("the first world by undo()", Looks.ofState(x), first);
+      x.restore(0);
+    }
+  }
+
+  /** Gives each site slots and a registration, and leaves a marked and an old map behind. */
+  private static void buildRouters(NameMaps x, int name) {
+    for (int site = 0; site < x.total(2); site++) {
+      x.setSlot(site, site, 9, site, 2 + site);
+      x.register(site);
+    }
+    x.addRouter();
+    x.addRouter();
+    x.send(0, name, 0);
+    x.send(1, name + 1, 0);
+    int site = x.map(0, 0, 0);
+    x.setSlot(site, (site + 1) % 3, 8, 7, 3);
+    x.send(1, name + 1, 0);
+    x.unregister(site);
+    x.send(0, name, 0);
+    x.send(0, 255, 0);
+    x.register(site);
+    check.due("a marked map", x.map(1, 0, 3), 1);
+    check.due("an old map", x.router(0, 5), 1);
+  }
+
+  private static void rowsAreMadeAnew() {
+    NameMaps x = new NameMaps();
+    x.save(0);
+    x.addServer(0, 0, 128);
+    x.addSite(0, 128, 20);
+    x.addRouter();
+    for (int slot = 0; slot < 3; slot++) {
+      x.setSlot(0, slot, 9, 8, 7);
+    }
+    x.register(0);
+    x.send(0, 0, 0);
+    x.setSlot(0, 0, 7, 6, 5);
+    x.unregister(0);
+    x.send(0, 0, 0);
+    x.register(0);
+    x.send(0, 0, 0);
+    x.restore(0);
+    check.due("addServer()", x.addServer(0, 128, 128), 1);
+    check.due("addSite()", x.addSite(0, 256, 5), 0);
+    check.due("addRouter()", x.addRouter(), 0);
+    NameMaps fresh = new NameMaps();
+    fresh.addServer(0, 128, 128);
+    fresh.addSite(0, 256, 5);
+    fresh.addRouter();
+    check.dueText("as in a new object", Looks.ofState(x), Looks.ofState(fresh));
   }
 }

@@ -13,6 +13,7 @@ public final class LettersTest {
     oldMaps();
     oldMapsWithoutAnswer();
     mapsThatEnded();
+    fullCacheThatEnded();
     fullCacheWithMarkedMap();
     hours();
     wouldReach();
@@ -217,6 +218,26 @@ public final class LettersTest {
     check.due("an ended map is no old one", x.router(0, 5), 0);
   }
 
+  private static void fullCacheThatEnded() {
+    NameMaps x = new NameMaps();
+    x.addRouter();
+    x.addSite(8, 1, 10);
+    for (int site = 1; site <= 5; site++) {
+      x.addSite(site, 1, 48);
+    }
+    for (int site = 0; site <= 5; site++) {
+      x.setSlot(site, 0, site, 0, 1);
+      x.register(site);
+    }
+    for (int site = 1; site <= 5; site++) {
+      x.send(0, site, 0);
+    }
+    x.pass(10);
+    check.due("five that do not hold", x.router(0, 0), 5);
+    check.due("by the proxy", x.send(0, 8, 0), 32);
+    check.due("all are dropped", x.router(0, 0), 0);
+  }
+
   private static void fullCacheWithMarkedMap() {
     NameMaps x = new NameMaps();
     x.addRouter();
@@ -296,6 +317,9 @@ public final class LettersTest {
     check.due("no site is up", x.wouldAsk(0, 5, 0), 1);
     x.register(0);
     check.due("no map", x.wouldAsk(0, 5, 0), 1);
+    x.setSlot(0, 0, 0, 0, 1);
+    check.due("no map, and the letter arrives at place 0", x.wouldAsk(0, 5, 0), 1);
+    x.setSlot(0, 0, 1, 0, 1);
     x.send(0, 5, 0);
     check.due("a map", x.wouldAsk(0, 5, 99), 0);
     x.setSlot(0, 1, 3, 9, 1);

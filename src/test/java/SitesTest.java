@@ -34,6 +34,7 @@ public final class SitesTest {
     check.due("life least", x.addSite(0, 4, Integer.MIN_VALUE), -2);
     check.due("nothing was recorded", x.total(11), 0);
     check.due("life 1", x.addSite(0, 4, 1), 0);
+    check.due("the block of site 0", x.addSite(0, 4, 2), -3);
     check.due("life 48", x.addSite(4, 4, 48), 1);
     check.due("the same block", x.addSite(4, 4, 3), -3);
     check.due("value ahead of not possible", x.addSite(4, 4, 49), -2);

@@ -158,8 +158,11 @@ public final class TextTest {
     check.due("old maps", x.router(1, 5), 1);
     check.due("the text stays", x.total(12), 32);
     check.due("it has no fault", x.faultPosition(), -5);
-    check.due("run() again, until u0", x.run(), 6);
+    check.due("run() again", x.run(), 6);
     check.due("hour then", x.total(0), 8);
+    x.setSlot(0, 0, 0, 0, 1);
+    check.due("a letter that arrives at place 0", runOf(x, "r0;s0n0f0;t1;"), 3);
+    check.due("hour at last", x.total(0), 9);
   }
 
   private static void runUntilAnError() {
