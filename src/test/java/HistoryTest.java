@@ -5,6 +5,7 @@ public final class HistoryTest {
   public static void main(String[] args) {
     undoing();
     fiveStates();
+    errorsLeaveTheOldestState();
     recordedCalls();
     callsThatAreNotRecorded();
     saving();
@@ -67,6 +68,52 @@ public final class HistoryTest {
     check.due("hour at last", x.total(0), 36);
   }
 
+  private static void errorsLeaveTheOldestState() {
+    for (int call = 0; call <= 12; call++) {
+      NameMaps x = new NameMaps();
+      for (int n = 1; n <= 7; n++) {
+        x.pass(n);
+      }
+      check.dueTrue("an error of call " + call, callWithError(x, call) < 0);
+      for (int left = 4; left >= 0; left--) {
+        check.due("undo() after an error of call " + call, x.undo(), left);
+      }
+      check.due("hour of the oldest state", x.total(0), 1 + 2);
+    }
+  }
+
+  private static int callWithError(NameMaps x, int call) {
+    switch (call) {
+      case 0:
+        return x.addServer(9, 0, 1);
+      case 1:
+        return x.addSite(0, 3, 1);
+      case 2:
+        return x.restore(0);
+      case 3:
+        return x.setSlot(9, 0, 0, 0, 1);
+      case 4:
+        return x.emptySlot(9, 2);
+      case 5:
+        return x.register(9);
+      case 6:
+        return x.unregister(9);
+      case 7:
+        return x.setMapLife(0);
+      case 8:
+        return x.send(9, 0, 0);
+      case 9:
+        return x.pass(0);
+      case 10:
+        return x.forget(9);
+      case 11:
+        return x.restore(2);
+      default:
+        x.append('x');
+        return x.run();
+    }
+  }
+
   /** Each recorded call is undone on an object that has something of everything. */
   private static void recordedCalls() {
     for (int call = 0; call <= 11; call++) {
@@ -121,17 +168,9 @@ public final class HistoryTest {
     x.wouldReach(0, 0, 0, 5);
     x.wouldAsk(0, 0, 0);
     x.share(0, 0);
-    x.addServer(9, 0, 1);
-    x.addSite(0, 3, 1);
-    x.setSlot(9, 0, 0, 0, 1);
-    x.emptySlot(0, 2);
-    x.register(9);
-    x.unregister(9);
-    x.setMapLife(0);
-    x.send(9, 0, 0);
-    x.pass(0);
-    x.forget(9);
-    x.restore(1);
+    for (int call = 0; call <= 12; call++) {
+      callWithError(x, call == 2 ? 1 : call);
+    }
     check.due("states", x.total(11), 2);
     check.due("the same value", x.setMapLife(10), 10);
     check.due("it is recorded also then", x.total(11), 3);

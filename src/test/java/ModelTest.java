@@ -5,17 +5,18 @@ import java.util.Arrays;
  * answer is compared; the runs must also have met what is rare (old maps, marked maps, full caches).
  */
 public final class ModelTest {
-  private static final int RUNS = 400;
-  private static final int CALLS = 512;
+  private static final int RUNS = 800;
+  /** Beyond these calls a run only ends what it has begun, which stays below 512 calls. */
+  private static final int CALLS = 420;
   private static final String[] NAMES = {
       "addServer", "addSite", "addRouter", "setSlot", "emptySlot", "register", "unregister",
       "setMapLife", "send", "pass", "forget", "append", "clearText", "faultPosition", "run", "undo",
       "save", "restore", "server", "site", "slot", "router", "map", "answer", "way", "endingNext",
       "total", "wouldReach", "wouldAsk", "share"};
   private static final int[] OFTEN = {
-      3, 5, 2, 20, 5, 20, 4, 3, 70, 12, 2, 4, 2, 3, 3, 5, 2, 2, 5, 10, 5, 10, 15, 10, 5, 6, 20, 10,
+      3, 5, 2, 20, 5, 20, 4, 3, 70, 12, 2, 7, 2, 3, 3, 5, 2, 2, 5, 10, 5, 10, 15, 10, 5, 6, 20, 10,
       10, 4};
-  private static final int[] FIRST_CALLS = {0, 1, 1, 1, 1, 2, 3, 3, 3, 3, 3, 5, 5, 5, 5};
+  private static final int[] FIRST_CALLS = {0, 1, 1, 1, 1, 1, 2, 7, 3, 3, 3, 3, 3, 5, 5, 5, 5};
   private static final int[] WILD = {
       Integer.MIN_VALUE, Integer.MAX_VALUE, -1, -2, 8, 10, 32, 100, 256, 257, 1 << 30, 9999, -256};
 
@@ -23,6 +24,7 @@ public final class ModelTest {
   private static long seed = 20261119L;
   /** Most names of a run lie in one region, so that its blocks meet. */
   private static int region;
+  private static int calls;
   private static int oldMaps;
   private static int marked;
   private static int fullCaches;
@@ -36,7 +38,7 @@ public final class ModelTest {
     }
     check.dueTrue("old maps were met: " + oldMaps, oldMaps > 500);
     check.dueTrue("marked maps were met: " + marked, marked > 500);
-    check.dueTrue("full caches were met: " + fullCaches, fullCaches > 100);
+check.dueTrue("full caches were met: " + fullCaches, fullCaches > 100);
     check.dueTrue("proxies were met: " + proxied, proxied > 500);
     check.dueTrue("runs of several acts were met: " + longRuns, longRuns > 100);
     check.dueTrue("hour 9900 was met: " + lateHours, lateHours > 5);
@@ -53,7 +55,8 @@ public final class ModelTest {
     Face model = new Face(new Model());
     region = 32 * below(8);
     boolean isLate = run % 20 == 19;
-    for (int n = 0; n < CALLS; n++) {
+    calls = 0;
+    for (int n = 0; n < CALLS && calls < CALLS; n++) {
       int call = pickCall(n, isLate);
       int[] a = pickArguments(call, x.parameters(NAMES[call]), isLate);
       if (n % 50 == 49) {
@@ -64,7 +67,12 @@ public final class ModelTest {
       } else {
         compare(x, model, call, a);
       }
+      if (call == 15 && below(8) == 0) {
+        undoAll(x, model);
+      }
     }
+    undoAll(x, model);
+    check.dueTrue("no more than 512 calls", calls <= 512);
     if (run % 10 == 0) {
       check.dueText("looks of run " + run, Looks.ofAll(x), Looks.ofAll(model));
     }
@@ -73,7 +81,19 @@ public final class ModelTest {
     lateHours += x.call("total", 0) > 9900 ? 1 : 0;
   }
 
+  private static void undoAll(Face x, Face model) {
+    for (int n = 0; n < 6; n++) {
+      compare(x, model, 15, new int[0]);
+      for (int router = 0; router < 2; router++) {
+        compare(x, model, 21, new int[] {router, below(6)});
+        compare(x, model, 22, new int[] {router, below(3), below(5)});
+      }
+      compare(x, model, 26, new int[] {below(11)});
+    }
+  }
+
   private static void compare(Face x, Face model, int call, int[] a) {
+    calls++;
     int want = model.call(NAMES[call], a);
     int got = x.call(NAMES[call], a);
     check.due(NAMES[call] + Arrays.toString(a), got, want);
@@ -131,7 +151,7 @@ public final class ModelTest {
       case "emptySlot": return n == 0 ? below(8) : below(3);
       case "register":
       case "unregister": return below(8);
-      case "setMapLife": return below(3) == 0 ? below(102) : 10 + below(20);
+      case "setMapLife": return below(4) == 0 ? below(102) : 15 + below(60);
       case "send": return letterArgument(n);
       case "pass": return below(20) == 0 ? below(100) : 1 + below(3);
       case "append": return 30 + below(99);
@@ -162,6 +182,9 @@ public final class ModelTest {
 
   /** Appends a whole act, now and then with a fault in it. */
   private static void appendAct(Face x, Face model) {
+    if (model.call("faultPosition") >= 0 && below(2) == 0) {
+      compare(x, model, 12, new int[0]);
+    }
     String act;
     switch (below(7)) {
       case 0:

@@ -221,6 +221,13 @@ public final class SitesTest {
     check.due("the next one ended", x.answer(32), 0);
     x.emptySlot(0, 0);
     check.due("none is up", x.answer(32), -5);
+    x.setSlot(0, 0, 1, 1, 1);
+    x.register(2);
+    x.addSite(0, 128, 48);
+    x.setSlot(3, 0, 1, 1, 1);
+    x.register(3);
+    check.due("the smallest one, with a larger one behind it", x.answer(40), 2);
+    check.due("the smaller one, behind a larger one", x.answer(63), 3);
     check.due("answer(-1)", x.answer(-1), -2);
     check.due("answer(256)", x.answer(256), -2);
     check.due("answer(least)", x.answer(Integer.MIN_VALUE), -2);

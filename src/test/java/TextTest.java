@@ -62,6 +62,8 @@ public final class TextTest {
       write(x, text);
       check.due("fault of " + text, x.faultPosition(), -5);
       check.due("run of " + text, x.run() >= 0 ? 0 : 1, 0);
+      write(x, text + "x");
+      check.due("fault of " + text + "x", x.faultPosition(), text.length());
     }
   }
 

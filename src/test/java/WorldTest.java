@@ -82,6 +82,7 @@ public final class WorldTest {
 
   private static void totalsOfRouters() {
     NameMaps x = new NameMaps();
+    x.addServer(0, 128, 128);
     x.addSite(0, 128, 48);
     x.setSlot(0, 0, 3, 0, 1);
     x.register(0);
@@ -93,7 +94,10 @@ public final class WorldTest {
     check.due("send(1, 200, 0)", x.send(1, 200, 0), 38);
     check.due("maps", x.total(5), 2);
     check.due("asks", x.total(6), 3);
-    check.due("letters", x.total(7), 3);
+    check.due("hops", x.router(0, 2) + x.router(1, 2), 4);
+    check.due("send(0, 2, 0)", x.send(0, 2, 0), 3);
+    check.due("send(0, 3, 0)", x.send(0, 3, 0), 3);
+    check.due("letters", x.total(7), 5);
     check.due("letters by a proxy", x.total(8), 1);
     x.setSlot(0, 0, 4, 0, 1);
     check.due("send(0, 0, 0)", x.send(0, 0, 0), 4);
