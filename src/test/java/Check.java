@@ -2,6 +2,16 @@
 final class Check {
   private int answers;
   private int wrong;
+  private String about = "";
+
+  /** What the answers that follow are about; it is told ahead of each that is not as due. */
+  void about(String words) {
+    about = words;
+  }
+
+  int answers() {
+    return answers;
+  }
 
   void due(String call, long got, long want) {
     answers++;
@@ -13,8 +23,18 @@ final class Check {
   void dueText(String call, String got, String want) {
     answers++;
     if (!got.equals(want)) {
-      report(call + " is " + got + ", due is " + want);
+      reportFirstDifference(call, got.split("\n"), want.split("\n"));
     }
+  }
+
+  private void reportFirstDifference(String call, String[] got, String[] want) {
+    int line = 0;
+    while (line < got.length && line < want.length && got[line].equals(want[line])) {
+      line++;
+    }
+    String is = line < got.length ? got[line] : "at its end";
+    String due = line < want.length ? want[line] : "the end";
+    report(call + ", line " + line + ", is " + is + ", due is " + due);
   }
 
   void dueTrue(String what, boolean holds) {
@@ -27,7 +47,7 @@ final class Check {
   private void report(String line) {
     wrong++;
     if (wrong <= 50) {
-      System.out.println(line);
+      System.out.println(about + line);
     }
   }
 

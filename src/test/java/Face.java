@@ -3,7 +3,7 @@ import java.lang.reflect.Modifier;
 import java.util.HashMap;
 import java.util.Map;
 
-/** Calls the methods of the program or of the Model by their names. */
+/** Calls the methods of the Model by their names. */
 final class Face {
   private final Object target;
   private final Map<String, Method> methods = new HashMap<>();

@@ -16,8 +16,8 @@ public final class HistoryTest {
     check.end();
   }
 
-  private static NameMaps withAll() {
-    NameMaps x = new NameMaps();
+  private static Watched withAll() {
+    Watched x = new Watched();
     x.addServer(0, 0, 128);
     x.addServer(1, 0, 64);
     x.addSite(0, 128, 20);
@@ -36,7 +36,7 @@ public final class HistoryTest {
   }
 
   private static void undoing() {
-    NameMaps x = new NameMaps();
+    Watched x = new Watched();
     check.due("no state", x.undo(), -3);
     x.pass(1);
     x.pass(2);
@@ -53,7 +53,7 @@ public final class HistoryTest {
   }
 
   private static void fiveStates() {
-    NameMaps x = new NameMaps();
+    Watched x = new Watched();
     for (int n = 1; n <= 13; n++) {
       x.pass(n);
       check.due("states", x.total(11), Math.min(n, 5));
@@ -70,7 +70,7 @@ public final class HistoryTest {
 
   private static void errorsLeaveTheOldestState() {
     for (int call = 0; call <= 12; call++) {
-      NameMaps x = new NameMaps();
+      Watched x = new Watched();
       for (int n = 1; n <= 7; n++) {
         x.pass(n);
       }
@@ -82,7 +82,7 @@ public final class HistoryTest {
     }
   }
 
-  private static int callWithError(NameMaps x, int call) {
+  private static int callWithError(Watched x, int call) {
     switch (call) {
       case 0:
         return x.addServer(9, 0, 1);
@@ -117,7 +117,7 @@ public final class HistoryTest {
   /** Each recorded call is undone on an object that has something of everything. */
   private static void recordedCalls() {
     for (int call = 0; call <= 11; call++) {
-      NameMaps x = withAll();
+      Watched x = withAll();
       x.setMapLife(20 + call);
       String before = Looks.ofState(x);
       check.due("recorded call " + call, recordedCall(x, call) >= 0 ? 0 : 1, 0);
@@ -127,7 +127,7 @@ public final class HistoryTest {
     }
   }
 
-  private static int recordedCall(NameMaps x, int call) {
+  private static int recordedCall(Watched x, int call) {
     switch (call) {
       case 0:
         return x.addServer(0, 128, 128);
@@ -157,7 +157,7 @@ public final class HistoryTest {
   }
 
   private static void callsThatAreNotRecorded() {
-    NameMaps x = withAll();
+    Watched x = withAll();
     for (int n = 0; n < 3; n++) {
       x.undo();
     }
@@ -177,7 +177,7 @@ public final class HistoryTest {
   }
 
   private static void saving() {
-    NameMaps x = new NameMaps();
+    Watched x = new Watched();
     check.due("save(-1)", x.save(-1), -1);
     check.due("save(2)", x.save(2), -1);
     check.due("save(most)", x.save(Integer.MAX_VALUE), -1);
@@ -202,7 +202,7 @@ public final class HistoryTest {
   }
 
   private static void savesAndUndo() {
-    NameMaps x = withAll();
+    Watched x = withAll();
     String before = Looks.ofState(x);
     x.save(0);
     check.due("undo()", x.undo(), 4);
@@ -225,7 +225,7 @@ public final class HistoryTest {
   }
 
   private static void savesAreCopies() {
-    NameMaps x = withAll();
+    Watched x = withAll();
     x.save(0);
     x.save(1);
     String before = Looks.ofState(x);
@@ -246,7 +246,7 @@ public final class HistoryTest {
 
   /** Two worlds that differ in everything take turns, so that nothing of one stays in the other. */
   private static void worldsInTurn() {
-    NameMaps x = new NameMaps();
+    Watched x = new Watched();
     x.save(0);
     x.addServer(0, 0, 128);
     x.addServer(1, 64, 64);
@@ -282,7 +282,7 @@ public final class HistoryTest {
   }
 
   /** Gives each site slots and a registration, and leaves a marked and an old map behind. */
-  private static void buildRouters(NameMaps x, int name) {
+  private static void buildRouters(Watched x, int name) {
     for (int site = 0; site < x.total(2); site++) {
       x.setSlot(site, site, 9, site, 2 + site);
       x.register(site);
@@ -303,7 +303,7 @@ public final class HistoryTest {
   }
 
   private static void rowsAreMadeAnew() {
-    NameMaps x = new NameMaps();
+    Watched x = new Watched();
     x.save(0);
     x.addServer(0, 0, 128);
     x.addSite(0, 128, 20);
@@ -322,7 +322,7 @@ public final class HistoryTest {
     check.due("addServer()", x.addServer(0, 128, 128), 1);
     check.due("addSite()", x.addSite(0, 256, 5), 0);
     check.due("addRouter()", x.addRouter(), 0);
-    NameMaps fresh = new NameMaps();
+    Watched fresh = new Watched();
     fresh.addServer(0, 128, 128);
     fresh.addSite(0, 256, 5);
     fresh.addRouter();

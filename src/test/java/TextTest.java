@@ -14,7 +14,7 @@ public final class TextTest {
     check.end();
   }
 
-  private static void write(NameMaps x, String text) {
+  private static void write(Watched x, String text) {
     x.clearText();
     for (int n = 0; n < text.length(); n++) {
       x.append(text.charAt(n));
@@ -22,7 +22,7 @@ public final class TextTest {
   }
 
   private static void appending() {
-    NameMaps x = new NameMaps();
+    Watched x = new Watched();
     check.due("byte 31", x.append(31), -2);
     check.due("byte 127", x.append(127), -2);
     check.due("byte -1", x.append(-1), -2);
@@ -41,7 +41,7 @@ public final class TextTest {
   }
 
   private static void clearing() {
-    NameMaps x = new NameMaps();
+    Watched x = new Watched();
     check.due("an empty text", x.clearText(), 0);
     write(x, "abc");
     check.due("three bytes", x.clearText(), 3);
@@ -53,7 +53,7 @@ public final class TextTest {
   }
 
   private static void textsWithoutFault() {
-    NameMaps x = new NameMaps();
+    Watched x = new Watched();
     String[] texts = {
         "", "s0n0f0;", "s3n255f99;", "s1n100f10;", "r0;", "r7;", "u0;", "u7;", "t1;", "t9;",
         "t10;", "t99;", "r0;u0;t1;s0n0f0;", "t1;t1;t1;", "s2n9f9;r3;",
@@ -130,7 +130,7 @@ public final class TextTest {
   }
 
   private static void faultOf(String text, int want) {
-    NameMaps x = new NameMaps();
+    Watched x = new Watched();
     write(x, text);
     check.due("fault of " + text, x.faultPosition(), want);
     String before = Looks.ofAll(x);
@@ -138,8 +138,8 @@ public final class TextTest {
     check.dueText("after run of " + text, Looks.ofAll(x), before);
   }
 
-  private static NameMaps withSite() {
-    NameMaps x = new NameMaps();
+  private static Watched withSite() {
+    Watched x = new Watched();
     x.addSite(0, 64, 5);
     x.setSlot(0, 0, 4, 0, 1);
     x.addRouter();
@@ -148,7 +148,7 @@ public final class TextTest {
   }
 
   private static void running() {
-    NameMaps x = withSite();
+    Watched x = withSite();
     write(x, "r0;s1n63f99;t4;s1n0f0;u0;s1n5f5;");
     check.due("run()", x.run(), 6);
     check.due("hour", x.total(0), 4);
@@ -168,7 +168,7 @@ public final class TextTest {
   }
 
   private static void runUntilAnError() {
-    NameMaps x = withSite();
+    Watched x = withSite();
     write(x, "t1;u0;t1;");
     check.due("until a site that is not registered", x.run(), 1);
     check.due("hour", x.total(0), 1);
@@ -186,13 +186,13 @@ public final class TextTest {
     check.due("hour at last", x.total(0), 9999);
   }
 
-  private static int runOf(NameMaps x, String text) {
+  private static int runOf(Watched x, String text) {
     write(x, text);
     return x.run();
   }
 
   private static void runAndHistory() {
-    NameMaps x = withSite();
+    Watched x = withSite();
     check.due("states ahead", x.total(11), 4);
     String before = Looks.ofState(x);
     check.due("three acts", runOf(x, "r0;t2;s0n0f0;"), 3);
@@ -210,7 +210,7 @@ public final class TextTest {
   }
 
   private static void longestText() {
-    NameMaps x = new NameMaps();
+    Watched x = new Watched();
     x.addSite(0, 1, 1);
     StringBuilder text = new StringBuilder();
     for (int n = 0; n < 26; n++) {

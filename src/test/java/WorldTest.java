@@ -5,6 +5,7 @@ public final class WorldTest {
   public static void main(String[] args) {
     constants();
     newObject();
+    newNames();
     totals();
     totalsOfRouters();
     namesWithAnswer();
@@ -20,7 +21,7 @@ public final class WorldTest {
   }
 
   private static void newObject() {
-    NameMaps x = new NameMaps();
+    Watched x = new Watched();
     int[] totals = {0, 1, 0, 0, 0, 0, 0, 0, 0, 0, 10, 0, 0, 0};
     for (int property = 0; property < totals.length; property++) {
       check.due("new total(" + property + ")", x.total(property), totals[property]);
@@ -37,18 +38,22 @@ public final class WorldTest {
     check.due("new restore(0)", x.restore(0), -3);
     check.due("new restore(1)", x.restore(1), -3);
     check.due("new endingNext(0)", x.endingNext(0), -5);
-    for (int name = 0; name < 256; name++) {
-      check.due("new answer", x.answer(name), -5);
-      check.due("new way home", x.way(name, 0), 0);
-      check.due("new way hops", x.way(name, 1), 1);
-    }
-    NameMaps other = new NameMaps();
+    Watched other = new Watched();
     x.addRouter();
     check.due("another object's routers", other.total(3), 0);
   }
 
+  private static void newNames() {
+    for (int name = 0; name < 256; name++) {
+      Watched x = new Watched();
+      check.due("new answer", x.answer(name), -5);
+      check.due("new way home", x.way(name, 0), 0);
+      check.due("new way hops", x.way(name, 1), 1);
+    }
+  }
+
   private static void totals() {
-    NameMaps x = new NameMaps();
+    Watched x = new Watched();
     check.due("total(-1)", x.total(-1), -2);
     check.due("total(14)", x.total(14), -2);
     check.due("total(least)", x.total(Integer.MIN_VALUE), -2);
@@ -81,7 +86,7 @@ public final class WorldTest {
   }
 
   private static void totalsOfRouters() {
-    NameMaps x = new NameMaps();
+    Watched x = new Watched();
     x.addServer(0, 128, 128);
     x.addSite(0, 128, 48);
     x.setSlot(0, 0, 3, 0, 1);
@@ -109,7 +114,7 @@ public final class WorldTest {
   }
 
   private static void namesWithAnswer() {
-    NameMaps x = new NameMaps();
+    Watched x = new Watched();
     x.addServer(0, 64, 64);
     x.addSite(0, 256, 48);
     x.setSlot(0, 0, 1, 1, 1);
