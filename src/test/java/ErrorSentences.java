@@ -216,9 +216,34 @@ final class ErrorSentences {
     s.plain("Ahead of the calls send, pass, forget the interface says: ---- letters and hours.");
     s.plain("Ahead of the calls append, clearText, faultPosition, run the interface says: ---- the text.");
     s.plain("Ahead of the calls undo, save, restore the interface says: ---- history and slots.");
-    s.plain("Ahead of the calls server, site, slot, router, map, answer, way, endingNext, total the "
-        + "interface says: ---- looking.");
-    s.plain("Ahead of the calls wouldReach, wouldAsk, share the interface says: ---- what could be, which "
-        + "changes nothing.");
+    s.test("Ahead of the calls server, site, slot, router, map, answer, way, endingNext, total the "
+        + "interface says: ---- looking.", c -> {
+          String before = Looks.ofEverything(Given.world());
+          for (Watched.Call look : new Watched.Call[] {call("server", 2, 5), call("site", 2, 7),
+              call("slot", 0, 0, 2), call("router", 1, 5), call("map", 0, 1, 4), call("answer", 70),
+              call("way", 70, 1), call("endingNext", 2), call("total", 13)}) {
+            Watched x = Given.world();
+            c.dueTrue(look.name() + " is no error", x.call(look.name(), look.arguments()) >= 0);
+            c.dueText("all after " + look.name(), Looks.ofEverything(x), before);
+          }
+        });
+    s.test("Ahead of the calls wouldReach, wouldAsk, share the interface says: ---- what could be, which "
+        + "changes nothing.", c -> {
+          String before = Looks.ofEverything(Given.world());
+          Watched x = Given.world();
+          int[] names = {0, 5, 64, 70, 130, 200, 255};
+          for (int name : names) {
+            for (int router = 0; router <= 1; router++) {
+              x.wouldAsk(router, name, 0);
+              for (int hours : new int[] {0, 1, 9, 50, 99}) {
+                x.wouldReach(router, name, 99, hours);
+              }
+            }
+          }
+          for (int site = 0; site <= 2; site++) {
+            x.share(site, 1);
+          }
+          c.dueText("all after them", Looks.ofEverything(x), before);
+        });
   }
 }

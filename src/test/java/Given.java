@@ -72,20 +72,23 @@ final class Given {
     return x;
   }
 
-  /** Something of everything: a marked map, an old one that was met, two saved states, a text. */
+  /**
+   * Something of everything: a marked map, an old one that was met, a text. Slot 0 has an earlier
+   * state, slot 1 that of a new object.
+   */
   static Watched world() {
     Watched x = new Watched();
+    x.save(1);
     x.addServer(0, 0, 128);
     x.addServer(1, 64, 64);
-    x.save(1);
     siteUp(x, 0, 128, 1);
     siteUp(x, 64, 64, 2);
     siteUp(x, 192, 64, 3);
     x.addRouter();
     x.addRouter();
     x.pass(3);
-    x.send(0, 5, 0);
     x.send(0, 70, 1);
+    x.send(0, 5, 0);
     x.send(1, 200, 2);
     x.send(1, 130, 3);
     x.setSlot(1, 1, 9, 0, 4);
@@ -102,6 +105,33 @@ final class Given {
     x.send(1, 64, 99);
     text(x, "t1;s1n6f7;r0;");
     return x;
+  }
+
+  /** Made on a new state: a world that differs in everything from the other one. */
+  static void buildOtherWorld(Watched x) {
+    x.pass(1);
+    x.setMapLife(33);
+    x.addServer(0, 128, 64);
+    x.addServer(0, 64, 32);
+    x.addServer(1, 160, 1);
+    int[][] sites = {{64, 32, 11}, {128, 32, 12}, {0, 256, 13}, {160, 1, 14}};
+    for (int[] site : sites) {
+      int number = x.addSite(site[0], site[1], site[2]);
+      x.setSlot(number, 2 - number % 2, 20 + number, 5, 2 + number);
+      x.setSlot(number, 0, 25 + number, 6, 3);
+      x.register(number);
+    }
+    for (int router = 0; router <= 2; router++) {
+      x.addRouter();
+      for (int name = 32; name < 256 - 64 * router; name += 32) {
+        x.send(router, name, router);
+      }
+    }
+    x.setSlot(0, 1, 7, 7, 7);
+    x.send(0, 64, 0);
+    x.send(2, 65, 0);
+    x.unregister(1);
+    x.send(1, 129, 0);
   }
 
   /** The same state with one state in the history; what slot 0 held is lost. */

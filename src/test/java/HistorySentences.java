@@ -39,6 +39,9 @@ final class HistorySentences {
     });
     s.test("a state is all but the text, the history and the slots of save().", c -> {
       Watched x = Given.world();
+      c.due("a marked map", x.map(0, 0, 3), 1);
+      c.due("a map that is not marked", x.map(0, 1, 3), 0);
+      c.due("old maps", x.total(9), 1);
       String before = Looks.ofState(x);
       x.save(0);
       x.pass(9);
@@ -274,6 +277,7 @@ final class HistorySentences {
         c.dueText("the state of slot " + n % 2, Looks.ofState(x), before);
         recordedCall(n).applyAsInt(x);
       }
+      worldsInTurn(c);
     });
     s.recorded(Given::world, x -> x.restore(1));
     s.test("slot: 0 or 1", c -> {
@@ -314,6 +318,27 @@ final class HistorySentences {
         c.due("it is not", x.restore(slot), 0);
       }
     });
+  }
+
+  /** Two worlds that differ in everything take turns, so that nothing of one stays in the other. */
+  private static void worldsInTurn(Check c) {
+    Watched x = Given.world();
+    x.save(0);
+    String first = Looks.ofState(x);
+    x.restore(1);
+    Given.buildOtherWorld(x);
+    x.save(1);
+    String second = Looks.ofState(x);
+    for (int n = 0; n < 3; n++) {
+      x.restore(0);
+      c.dueText("the first world", Looks.ofState(x), first);
+      x.restore(1);
+      c.dueText("the second world", Looks.ofState(x), second);
+      x.undo();
+      c.dueText("the first world by undo()", Looks.ofState(x), first);
+      x.undo();
+      c.dueText("the second world by undo()", Looks.ofState(x), second);
+    }
   }
 
   private static void totals(Sentences s) {
@@ -372,6 +397,7 @@ final class HistorySentences {
   private static void totalsOfRouters(Sentences s) {
     s.test("6 of asks so far, 7 of letters so far, ", c -> {
       Watched x = Given.fourRouters();
+      x.addServer(0, 0, 128);
       Given.siteUp(x, 0, 128, 1);
       for (int router = 0; router <= 3; router++) {
         x.send(router, 0, 0);
@@ -399,6 +425,7 @@ final class HistorySentences {
         x.send(router, 0, 0);
         c.due("a map", x.total(9), router);
         x.unregister(0);
+        x.send(router, 0, 0);
         x.send(router, 0, 0);
         c.due("an old map", x.total(9), router + 1);
       }

@@ -2,10 +2,10 @@ import com.sun.source.tree.BinaryTree;
 import com.sun.source.tree.ClassTree;
 import com.sun.source.tree.CompilationUnitTree;
 import com.sun.source.tree.ForLoopTree;
+import com.sun.source.tree.ImportTree;
 import com.sun.source.tree.MemberSelectTree;
 import com.sun.source.tree.MethodInvocationTree;
 import com.sun.source.tree.MethodTree;
-import com.sun.source.tree.NewArrayTree;
 import com.sun.source.tree.NewClassTree;
 import com.sun.source.tree.ParenthesizedTree;
 import com.sun.source.tree.Tree;
@@ -44,12 +44,16 @@ public final class LanguageTest extends TreePathScanner<Void, Void> {
       "wouldReach(int,int,int,int)", "wouldAsk(int,int,int)", "share(int,int)"));
   private static final Set<Tree.Kind> FORBIDDEN = Set.of(
       Tree.Kind.THROW, Tree.Kind.TRY, Tree.Kind.CATCH, Tree.Kind.SYNCHRONIZED, Tree.Kind.ASSERT,
-      Tree.Kind.LAMBDA_EXPRESSION, Tree.Kind.MEMBER_REFERENCE, Tree.Kind.IMPORT, Tree.Kind.PACKAGE,
-      Tree.Kind.ANNOTATION);
+      Tree.Kind.LAMBDA_EXPRESSION, Tree.Kind.MEMBER_REFERENCE, Tree.Kind.PACKAGE);
+  private static final Set<String> IMPORTS = Set.of(
+      "java.util.ArrayList", "java.util.Arrays", "java.util.Iterator", "java.util.List");
+  /** Of Integer, Long and Math all functions over int and long but those that end in Exact. */
+  private static final Set<String> FREE_CLASSES = Set.of("Integer", "Long", "Math");
   private static final Set<String> LIBRARY = Set.of(
-      "Math.min", "Math.floorMod", "Integer.bitCount");
+      "System.arraycopy", "Arrays.copyOf", "Arrays.copyOfRange", "Arrays.fill", "List.of");
   private static final Set<String> LIBRARY_CLASSES = Set.of(
-      "Math", "Integer", "System", "Long", "String", "Arrays", "Character", "Thread", "Object");
+      "Math", "Integer", "Long", "System", "Arrays", "List", "String", "Character", "Thread",
+      "Object", "Double", "Float", "Boolean", "Byte", "Short", "Runtime");
   private static final int MOST_LINES = 60;
   private static final int MOST_PARAMETERS = 7;
   private static final int MOST_CLASSES = 12;
@@ -191,27 +195,18 @@ public final class LanguageTest extends TreePathScanner<Void, Void> {
     return super.visitMethod(tree, none);
   }
 
-  /** Stricter than the rules: what no call makes needs not to be counted. */
+  @Override
+  public Void visitImport(ImportTree tree, Void none) {
+    String name = tree.getQualifiedIdentifier().toString();
+    check.dueTrue("of the library: " + name, IMPORTS.contains(name));
+    return super.visitImport(tree, none);
+  }
+
   @Override
   public Void visitNewClass(NewClassTree tree, Void none) {
     check.dueTrue("no class without a name" + at(tree), tree.getClassBody() == null);
     noteCall(tree);
-    lookAtNew(tree);
     return super.visitNewClass(tree, none);
-  }
-
-  @Override
-  public Void visitNewArray(NewArrayTree tree, Void none) {
-    lookAtNew(tree);
-    return super.visitNewArray(tree, none);
-  }
-
-  private void lookAtNew(Tree tree) {
-    for (TreePath path = getCurrentPath(); path != null; path = path.getParentPath()) {
-      if (path.getLeaf() instanceof MethodTree method) {
-        check.dueTrue("made in a constructor" + at(tree), method.getName().contentEquals("<init>"));
-      }
-    }
   }
 
   @Override
@@ -219,7 +214,10 @@ public final class LanguageTest extends TreePathScanner<Void, Void> {
     noteCall(tree);
     if (tree.getMethodSelect() instanceof MemberSelectTree select
         && LIBRARY_CLASSES.contains(select.getExpression().toString())) {
-      check.dueTrue("of the library: " + select + at(tree), LIBRARY.contains(select.toString()));
+      boolean isFree = FREE_CLASSES.contains(select.getExpression().toString())
+          && !select.getIdentifier().toString().endsWith("Exact");
+      check.dueTrue("of the library: " + select + at(tree),
+          isFree || LIBRARY.contains(select.toString()));
     }
     return super.visitMethodInvocation(tree, none);
   }
@@ -236,13 +234,16 @@ public final class LanguageTest extends TreePathScanner<Void, Void> {
     return super.visitWhileLoop(tree, none);
   }
 
-  /** Some part of the condition that must hold compares a counter. */
+  /** Some part of the condition that must hold compares a counter, or looks for a chain's end. */
   private static boolean hasBound(Tree condition) {
     if (condition instanceof ParenthesizedTree inner) {
       return hasBound(inner.getExpression());
     }
     if (condition instanceof BinaryTree both && both.getKind() == Tree.Kind.CONDITIONAL_AND) {
       return hasBound(both.getLeftOperand()) || hasBound(both.getRightOperand());
+    }
+    if (condition instanceof BinaryTree chain && chain.getKind() == Tree.Kind.NOT_EQUAL_TO) {
+      return chain.getRightOperand().getKind() == Tree.Kind.NULL_LITERAL;
     }
     return condition != null && Set.of(Tree.Kind.LESS_THAN, Tree.Kind.GREATER_THAN,
         Tree.Kind.GREATER_THAN_EQUAL, Tree.Kind.LESS_THAN_EQUAL).contains(condition.getKind());

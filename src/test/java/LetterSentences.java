@@ -67,6 +67,11 @@ final class LetterSentences {
             c.due("letter to " + row[0], x.send(0, row[0], 0), row[1]);
           }
           c.due("asks", x.router(0, 1), 3);
+          x.addServer(0, 0, 64);
+          c.due("a name that has another home since", x.send(0, 31, 0), 2);
+          x.addServer(0, 128, 64);
+          c.due("a name without an answer", x.answer(130), -5);
+          c.due("but with a map", x.send(0, 130, 0), 1);
           x.pass(9);
           c.due("the smallest one has ended", x.send(0, 40, 0), 2);
           c.due("no ask for that", x.router(0, 1), 3);
@@ -321,14 +326,29 @@ final class LetterSentences {
       c.due("letters", x.total(7), 1);
     });
     s.recorded(Given::world, x -> x.send(0, 70, 5));
-    s.test("router: a router name: 0 to 255 flow: 0 to 99", c -> {
+    s.test("router: a router ", c -> {
       Watched x = Given.fourRouters();
-      Given.siteUp(x, 0, 256, 1);
       for (int router = 0; router <= 3; router++) {
-        c.due("the least by router " + router, x.send(router, 0, 0), 1);
-        c.due("the most by router " + router, x.send(router, 255, 99), 1);
-        c.due("letters of router " + router, x.router(router, 3), 2);
+        c.due("router " + router, x.send(router, 5, 5), 32);
+        c.due("its letters", x.router(router, 3), 1);
       }
+    });
+    s.test("name: 0 to 255 ", c -> {
+      Watched x = Given.fourRouters();
+      Given.siteUp(x, 0, 1, 1);
+      Given.siteUp(x, 255, 1, 2);
+      c.due("the least", x.send(0, 0, 5), 1);
+      c.due("the least but one", x.send(0, 1, 5), 32);
+      c.due("the most but one", x.send(0, 254, 5), 39);
+      c.due("the most", x.send(0, 255, 5), 2);
+    });
+    s.test("flow: 0 to 99", c -> {
+      Watched x = Given.oneSite();
+      x.setSlot(0, 1, 2, 0, 4);
+      c.due("the least", x.send(0, 5, 0), 1);
+      c.due("the least but one", x.send(0, 5, 1), 2);
+      c.due("the most but four", x.send(0, 5, 95), 1);
+      c.due("the most", x.send(0, 5, 99), 2);
     });
     s.test("Returns the place at which it arrives, ", c -> {
       Watched x = Given.oneSite();
@@ -481,13 +501,33 @@ final class LetterSentences {
   }
 
   private static void wouldReachArguments(Sentences s) {
-    s.test("router: a router name: 0 to 255 flow: 0 to 99", c -> {
-      Watched x = Given.fourRouters();
-      Given.siteUp(x, 0, 256, 1);
-      for (int router = 0; router <= 3; router++) {
-        c.due("the least of router " + router, x.wouldReach(router, 0, 0, 0), 1);
-        c.due("the most of router " + router, x.wouldReach(router, 255, 99, 0), 1);
+    s.test("router: a router ", c -> {
+      Watched x = Given.oneSite();
+      for (int router = 1; router <= 3; router++) {
+        x.addRouter();
       }
+      x.send(3, 5, 0);
+      Given.siteUp(x, 0, 128, 2);
+      for (int router = 0; router <= 3; router++) {
+        c.due("router " + router, x.wouldReach(router, 5, 5, 5), router == 3 ? 1 : 2);
+      }
+    });
+    s.test("name: 0 to 255 ", c -> {
+      Watched x = Given.fourRouters();
+      Given.siteUp(x, 0, 1, 1);
+      Given.siteUp(x, 255, 1, 2);
+      c.due("the least", x.wouldReach(0, 0, 5, 5), 1);
+      c.due("the least but one", x.wouldReach(0, 1, 5, 5), 32);
+      c.due("the most but one", x.wouldReach(0, 254, 5, 5), 39);
+      c.due("the most", x.wouldReach(0, 255, 5, 5), 2);
+    });
+    s.test("flow: 0 to 99", c -> {
+      Watched x = Given.oneSite();
+      x.setSlot(0, 1, 2, 0, 4);
+      c.due("the least", x.wouldReach(0, 5, 0, 5), 1);
+      c.due("the least but one", x.wouldReach(0, 5, 1, 5), 2);
+      c.due("the most but four", x.wouldReach(0, 5, 95, 5), 1);
+      c.due("the most", x.wouldReach(0, 5, 99, 5), 2);
     });
     s.test("hours: 0 to 99 ", c -> {
       Watched x = Given.oneSite();
@@ -570,16 +610,36 @@ final class LetterSentences {
   }
 
   private static void wouldAskArguments(Sentences s) {
-    s.test("router: a router name: 0 to 255 flow: 0 to 99", c -> {
+    s.test("router: a router ", c -> {
       Watched x = Given.fourRouters();
       Given.siteUp(x, 0, 256, 1);
       for (int router = 0; router <= 3; router++) {
-        c.due("the least of router " + router, x.wouldAsk(router, 0, 0), 1);
-        c.due("the most of router " + router, x.wouldAsk(router, 255, 99), 1);
-        x.send(router, 100, 0);
-        c.due("the least, with a map", x.wouldAsk(router, 0, 0), 0);
-        c.due("the most, with a map", x.wouldAsk(router, 255, 99), 0);
+        c.due("router " + router, x.wouldAsk(router, 5, 5), 1);
+        x.send(router, 5, 5);
+        c.due("router " + router + ", with a map", x.wouldAsk(router, 5, 5), 0);
       }
+    });
+    s.test("name: 0 to 255 ", c -> {
+      Watched x = Given.fourRouters();
+      Given.siteUp(x, 0, 1, 1);
+      Given.siteUp(x, 255, 1, 2);
+      for (int name : new int[] {0, 255}) {
+        c.due("name " + name, x.wouldAsk(0, name, 5), 1);
+        x.send(0, name, 5);
+        c.due("name " + name + ", with a map", x.wouldAsk(0, name, 5), 0);
+      }
+      c.due("the least but one", x.wouldAsk(0, 1, 5), 1);
+      c.due("the most but one", x.wouldAsk(0, 254, 5), 1);
+    });
+    s.test("flow: 0 to 99", c -> {
+      Watched x = Given.oneSite();
+      x.setSlot(0, 1, 2, 0, 4);
+      x.send(0, 5, 0);
+      x.emptySlot(0, 1);
+      c.due("the least", x.wouldAsk(0, 5, 0), 0);
+      c.due("the least but one", x.wouldAsk(0, 5, 1), 1);
+      c.due("the most but four", x.wouldAsk(0, 5, 95), 0);
+      c.due("the most", x.wouldAsk(0, 5, 99), 1);
     });
     s.test("Returns the number, 0 or 1;", c -> {
       Watched x = Given.oneSite();
@@ -592,6 +652,10 @@ final class LetterSentences {
         x.register(0);
         x.forget(0);
       }
+      x.setSlot(0, 0, 0, 0, 1);
+      c.due("no map, and it would arrive at place 0", x.wouldAsk(0, 5, 0), 1);
+      x.send(0, 5, 0);
+      c.due("a map, and it would arrive at place 0", x.wouldAsk(0, 5, 0), 0);
     });
     s.test("BAD_INDEX if there is no such router;", c -> {
       c.due("without routers", new Watched().wouldAsk(0, 0, 0), -1);

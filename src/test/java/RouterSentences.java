@@ -320,6 +320,7 @@ final class RouterSentences {
       c.due("no map", x.map(1, 0, 0), -1);
       c.due("it asks", x.wouldAsk(1, 5, 0), 1);
       c.due("routers", x.total(3), 2);
+      placeOfAnUndoneRouter(c);
     });
     s.recorded(Given::world, x -> x.addRouter());
     s.test("Returns its number;", c -> {
@@ -335,6 +336,26 @@ final class RouterSentences {
       c.due("there are 3", x.addRouter(), 3);
       c.due("there are 4 again", x.addRouter(), -4);
     });
+  }
+
+  /** A router gets the number of one that was undone, and nothing else of it. */
+  private static void placeOfAnUndoneRouter(Check c) {
+    Watched x = new Watched();
+    Given.siteUp(x, 0, 128, 1);
+    x.save(0);
+    x.addRouter();
+    x.send(0, 5, 0);
+    x.send(0, 200, 0);
+    x.unregister(0);
+    x.send(0, 5, 0);
+    x.register(0);
+    x.send(0, 5, 0);
+    x.restore(0);
+    c.due("its number", x.addRouter(), 0);
+    for (int property = 0; property <= 5; property++) {
+      c.due("router(0, " + property + ") then", x.router(0, property), 0);
+    }
+    c.due("no map then", x.map(0, 0, 0), -1);
   }
 
   private static void setMapLife(Sentences s) {

@@ -133,16 +133,31 @@ final class SiteLooksSentences {
   }
 
   private static void slot(Sentences s) {
-    s.test("int slot(int site, int slot, int property): Returns a property of a slot of a site. "
-        + "site: a site slot: 0 to 2", c -> {
-          Watched x = Given.eightSites();
-          for (int n = 0; n < 24; n++) {
-            x.setSlot(n / 3, n % 3, n, 1, 1);
-          }
-          for (int n = 0; n < 24; n++) {
-            c.due("slot " + n % 3 + " of " + n / 3, x.slot(n / 3, n % 3, 0), n);
-          }
-        });
+    s.test("int slot(int site, int slot, int property): Returns a property of a slot of a site.", c -> {
+      Watched x = Given.eightSites();
+      for (int n = 0; n < 24; n++) {
+        x.setSlot(n / 3, n % 3, n, 1, 1);
+      }
+      for (int n = 0; n < 24; n++) {
+        c.due("slot " + n % 3 + " of " + n / 3, x.slot(n / 3, n % 3, 0), n);
+      }
+    });
+    s.test("site: a site ", c -> {
+      Watched x = Given.eightSites();
+      for (int site = 0; site <= 7; site++) {
+        c.due("an empty slot of site " + site, x.slot(site, 1, 0), -5);
+        x.setSlot(site, 1, 20 + site, 1, 1);
+        c.due("a slot of site " + site, x.slot(site, 1, 0), 20 + site);
+      }
+    });
+    s.test("slot: 0 to 2", c -> {
+      Watched x = Given.eightSites();
+      for (int slot = 0; slot <= 2; slot++) {
+        c.due("slot " + slot + ", empty", x.slot(7, slot, 0), -5);
+        x.setSlot(7, slot, 20 + slot, 1, 1);
+        c.due("slot " + slot, x.slot(7, slot, 0), 20 + slot);
+      }
+    });
     s.test("property: 0 its place, 1 its priority, 2 its weight Returns the property;", c -> {
       Watched x = Given.eightSites();
       int[][] slots = {{0, 0, 1}, {31, 9, 9}, {7, 8, 6}};

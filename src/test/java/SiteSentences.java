@@ -266,6 +266,7 @@ final class SiteSentences {
           c.due("endingNext", x.endingNext(0), -5);
           x.pass(5);
           c.due("a site that is added later", x.site(x.addSite(0, 1, 1), 4), 0);
+          placeOfAnUndoneSite(c);
         });
     s.recorded(Given::world, x -> x.addSite(128, 64, 5));
     s.test("first: the first name of its block", c -> {
@@ -295,6 +296,26 @@ final class SiteSentences {
         c.due("one more", x.addSite(site, 1, 1), site);
       }
     });
+  }
+
+  /** A site gets the number of one that was undone, and nothing else of it. */
+  private static void placeOfAnUndoneSite(Check c) {
+    Watched x = new Watched();
+    x.save(0);
+    x.addSite(0, 128, 48);
+    for (int slot = 0; slot <= 2; slot++) {
+      x.setSlot(0, slot, 9, 8, 7);
+    }
+    x.register(0);
+    x.restore(0);
+    c.due("its number", x.addSite(0, 256, 5), 0);
+    int[] due = {0, 256, 5, 1, 0, 0, 0, 0};
+    for (int property = 0; property < due.length; property++) {
+      c.due("site(0, " + property + ") then", x.site(0, property), due[property]);
+    }
+    for (int slot = 0; slot <= 2; slot++) {
+      c.due("slot " + slot + " then", x.slot(0, slot, 2), -5);
+    }
   }
 
   private static void addSiteErrors(Sentences s) {
@@ -364,10 +385,26 @@ final class SiteSentences {
         c.due("slot " + slot, x.setSlot(7, slot, 1, 1, 1), 2 + slot);
       }
     });
-    s.test("place: 0 to 31 priority: 0 to 9 weight: 1 to 9", c -> {
+    s.test("place: 0 to 31 ", c -> {
       Watched x = Given.eightSites();
-      c.due("the least", x.setSlot(0, 0, 0, 0, 1), 2);
-      c.due("the most", x.setSlot(0, 0, 31, 9, 9), 3);
+      c.due("the least", x.setSlot(0, 0, 0, 5, 5), 2);
+      c.due("it is place 0", x.slot(0, 0, 0), 0);
+      c.due("the most", x.setSlot(0, 0, 31, 5, 5), 3);
+      c.due("it is place 31", x.slot(0, 0, 0), 31);
+    });
+    s.test("priority: 0 to 9 ", c -> {
+      Watched x = Given.eightSites();
+      c.due("the least", x.setSlot(0, 0, 5, 0, 5), 2);
+      c.due("it is priority 0", x.slot(0, 0, 1), 0);
+      c.due("the most", x.setSlot(0, 0, 5, 9, 5), 3);
+      c.due("it is priority 9", x.slot(0, 0, 1), 9);
+    });
+    s.test("weight: 1 to 9", c -> {
+      Watched x = Given.eightSites();
+      c.due("the least", x.setSlot(0, 0, 5, 5, 1), 2);
+      c.due("it is weight 1", x.slot(0, 0, 2), 1);
+      c.due("the most", x.setSlot(0, 0, 5, 5, 9), 3);
+      c.due("it is weight 9", x.slot(0, 0, 2), 9);
     });
     s.test("Returns the version of the site then;", c -> {
       Watched x = Given.eightSites();
@@ -422,11 +459,18 @@ final class SiteSentences {
       }
     });
     s.recorded(Given::world, x -> x.emptySlot(1, 1));
-    s.test("site: a site slot: 0 to 2", c -> {
+    s.test("site: a site ", c -> {
       Watched x = Given.eightSites();
       for (int site = 0; site <= 7; site++) {
-        x.setSlot(site, site % 3, 0, 0, 1);
-        c.due("slot " + site % 3 + " of " + site, x.emptySlot(site, site % 3), 3);
+        x.setSlot(site, 1, 0, 0, 1);
+        c.due("site " + site, x.emptySlot(site, 1), 3);
+      }
+    });
+    s.test("slot: 0 to 2", c -> {
+      Watched x = Given.eightSites();
+      for (int slot = 0; slot <= 2; slot++) {
+        x.setSlot(7, slot, 0, 0, 1);
+        c.due("slot " + slot, x.emptySlot(7, slot), 3 + 2 * slot);
       }
     });
     s.test("Returns the version of the site then;", c -> {

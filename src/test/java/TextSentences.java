@@ -304,6 +304,7 @@ final class TextSentences {
   private static void clearText(Sentences s) {
     s.test("int clearText(): Empties the text.", c -> {
       Watched x = Given.withText("t1;x");
+      c.due("a fault", x.faultPosition(), 3);
       x.clearText();
       c.due("length", x.total(12), 0);
       c.due("no fault", x.faultPosition(), NO_FAULT);
@@ -341,7 +342,11 @@ final class TextSentences {
       faultIs(c, "t1;", NO_FAULT);
       faultIs(c, "s3n255f99;".repeat(8), NO_FAULT);
       faultIs(c, "r7;u7;t99;s0n0f0;", NO_FAULT);
-      Watched x = Given.withText("s3n0f0;u7;");
+      Watched x = Given.withText("s3n0f0;u7;t");
+      c.due("an act that is not at its end", x.faultPosition(), 11);
+      x.append('1');
+      c.due("nor then", x.faultPosition(), 12);
+      x.append(';');
       c.due("without routers and sites", x.faultPosition(), NO_FAULT);
     });
   }
